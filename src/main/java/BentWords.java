@@ -141,18 +141,17 @@ public final class BentWords {
     public int text(int sort) {
         switch (sort) {
             case LEXICON_TEXT:
-                return takeLexicon();
+                return lexiconReader.findFault() == NONE ? adoptLexicon() : NONE;
             case SCRIPT_TEXT:
-                return takeScript();
+                return scriptCount < MOST_SCRIPTS
+                    && scriptReader.findFault(scripts[scriptCount]) == NONE ? adoptScript() : NONE;
             default:
                 return NONE;
         }
     }
 
-    private int takeLexicon() {
-        if (lexiconReader.findFault() != NONE) {
-            return NONE;
-        }
+    /** What was read without a fault is the lexicon now. */
+    private int adoptLexicon() {
         lexicon.copyFrom(lexiconReader.draft);
         hasLexicon = true;
         state.beginWith(lexicon);
@@ -162,10 +161,8 @@ public final class BentWords {
         return lexicon.nouns;
     }
 
-    private int takeScript() {
-        if (scriptCount >= MOST_SCRIPTS || scriptReader.findFault(scripts[scriptCount]) != NONE) {
-            return NONE;
-        }
+    /** What was read without a fault, behind the scripts there are, is one of them now. */
+    private int adoptScript() {
         tape.length = 0;
         scriptCount++;
         return scriptCount - 1;
@@ -469,23 +466,23 @@ public final class BentWords {
 
     public int fill(int hole, int noun, int count) {
         own.set(FILLED, hole, noun, count, 0);
-        return actOrCountRefusal() ? state.numberIn(hole) : NONE;
+        return act(own, true) ? state.numberIn(hole) : NONE;
     }
 
     public int empty(int hole) {
         int noun = hasLexicon && isHole(hole) && !state.isOpen(hole) ? state.nounIn(hole) : NONE;
         own.set(EMPTIED, hole, 0, 0, 0);
-        return actOrCountRefusal() ? noun : NONE;
+        return act(own, true) ? noun : NONE;
     }
 
     public int strict(int is) {
         own.set(STRICTNESS, is, 0, 0, 0);
-        return actOrCountRefusal() ? teller.tellable() : NONE;
+        return act(own, true) ? tellable() : NONE;
     }
 
     public int tell(int noun, int kase, int number) {
         own.set(FORM_TOLD, noun, kase, number, cursor.wordAlone());
-        if (!actOrCountRefusal()) {
+        if (!act(own, true)) {
             return NONE;
         }
         tape.length = 0;
@@ -494,7 +491,7 @@ public final class BentWords {
 
     public int drop(int noun, int kase, int number) {
         own.set(DROPPED, noun, kase, number, 0);
-        return actOrCountRefusal() ? formsToldOf(noun) : NONE;
+        return act(own, true) ? formsToldOf(noun) : NONE;
     }
 
     public int ways(int n, long seed) {
@@ -504,9 +501,9 @@ public final class BentWords {
         draws.x = seed;
         for (int i = 0; i < n; i++) {
             draws.drawStep(own, lexicon.nouns);
-            act(own);
+            act(own, false);
         }
-        return teller.tellable();
+        return tellable();
     }
 
     public int status(int what) {
@@ -550,25 +547,24 @@ public final class BentWords {
         return bits;
     }
 
-    private boolean actOrCountRefusal() {
-        int refusal = refusalOf(own);
+    /** Does what the step tells, as an act; false: it can't be (STATUS counts that, if asked to). */
+    private boolean act(Step step, boolean counted) {
+        int refusal = refusalOf(step);
         if (refusal != NONE) {
-            refused[refusal]++;
-            return false;
-        }
-        return act(own);
-    }
-
-    /** Does what the step tells, as an act; false: it can't be. */
-    private boolean act(Step step) {
-        if (refusalOf(step) != NONE) {
+            if (counted) {
+                refused[refusal]++;
+            }
             return false;
         }
         int cell = step.cell();
         history.remember(cell, state.cells[cell]);
         state.cells[cell] = step.value();
-        history.addRow(step.sort, step.a, teller.tellable());
+        history.addRow(step.sort, step.a, Integer.bitCount(teller.tellableBits()));
         return true;
+    }
+
+    private int tellable() {
+        return Integer.bitCount(teller.tellableBits());
     }
 
     /** As what STATUS counts a step that can't be; NONE: it can be. */
@@ -638,10 +634,10 @@ public final class BentWords {
             state.cells[step.cell()] = step.value();
             behind++;
         }
-        int tellable = teller.tellable();
+        int toldThen = tellable();
         state.copyFrom(aside);
         if (what == 1) {
-            return tellable;
+            return toldThen;
         }
         return behind == steps.length ? NONE : behind;
     }
@@ -652,7 +648,7 @@ public final class BentWords {
         }
         Script steps = scripts[script];
         int behind = 0;
-        while (behind < steps.length && act(steps.steps[behind])) {
+        while (behind < steps.length && act(steps.steps[behind], false)) {
             behind++;
         }
         return behind;
@@ -668,7 +664,8 @@ public final class BentWords {
             case 0:
                 return teller.longest();
             case 1:
-                return bytesOfLongest();
+                int longest = teller.longest();
+                return longest == NONE ? 0 : teller.bytesTold(longest);
             case 2:
                 return missingOfAll();
             case 3:
@@ -680,11 +677,6 @@ public final class BentWords {
             default:
                 return what >= 6 && what <= 10 ? teller.messagesWithWhy(what - 6) : HIDDEN;
         }
-    }
-
-    private int bytesOfLongest() {
-        int longest = teller.longest();
-        return longest == NONE ? 0 : teller.bytesTold(longest);
     }
 
     private int missingOfAll() {
@@ -742,7 +734,7 @@ public final class BentWords {
         imageState.copyFrom(state);
         imageHistory.copyLogFrom(history);
         hasImage = true;
-        return teller.tellable();
+        return tellable();
     }
 
     public int back() {
@@ -751,7 +743,7 @@ public final class BentWords {
         }
         state.copyFrom(imageState);
         history.copyLogFrom(imageHistory);
-        return teller.tellable();
+        return tellable();
     }
 
     public int count(int what) {
@@ -895,15 +887,8 @@ public final class BentWords {
 
         /** The sign that comes next; 0: the text ends. */
         char nextSign() {
-            return isAtEnd() ? 0 : tape.bytes[at];
-        }
-
-        boolean takeSign(char sign) {
-            if (nextSign() != sign) {
-                return fail(at);
-            }
-            at++;
-            return true;
+            skipBlanks();
+            return at < tape.length ? tape.bytes[at] : 0;
         }
 
         boolean takeWord() {
@@ -932,10 +917,6 @@ public final class BentWords {
             }
             boolean fits = at > start && at - start <= mostDigits && number <= highest;
             return fits || fail(start);
-        }
-
-        boolean takeDigit(int highest) {
-            return takeNumber(1, highest);
         }
 
         /** Whether the word that was taken last is this one. */
@@ -978,9 +959,10 @@ public final class BentWords {
                 if (cursor.isAtEnd()) {
                     return draft.nouns == 0 ? cursor.at : NONE;
                 }
-                if (!cursor.takeSign(';')) {
-                    return cursor.failedAt;
+                if (cursor.nextSign() != ';') {
+                    return cursor.at;
                 }
+                cursor.at++;
             }
             return cursor.at;
         }
@@ -1020,7 +1002,7 @@ public final class BentWords {
                 return cursor.fail(cursor.start);
             }
             draft.nounNames[noun] = cursor.word;
-            if (!cursor.takeDigit(KINDS - 1)) {
+            if (!cursor.takeNumber(1, KINDS - 1)) {
                 return false;
             }
             draft.kinds[noun] = cursor.number;
@@ -1036,26 +1018,26 @@ public final class BentWords {
             if (noun == NONE) {
                 return cursor.fail(cursor.start);
             }
-            if (!cursor.takeDigit(CASES - 1)) {
+            if (!cursor.takeNumber(1, CASES - 1)) {
                 return false;
             }
             int kase = cursor.number;
-            if (!cursor.takeDigit(NUMBERS - 1)) {
+            if (!cursor.takeNumber(1, NUMBERS - 1)) {
                 return false;
             }
             return readWordOnce(begin, draft.forms, State.formCell(noun, kase, cursor.number));
         }
 
         private boolean readBoundWord(int begin, long[] table) {
-            if (!cursor.takeDigit(CASES - 1)) {
+            if (!cursor.takeNumber(1, CASES - 1)) {
                 return false;
             }
             int kase = cursor.number;
-            if (!cursor.takeDigit(NUMBERS - 1)) {
+            if (!cursor.takeNumber(1, NUMBERS - 1)) {
                 return false;
             }
             int number = cursor.number;
-            if (!cursor.takeDigit(KINDS - 1)) {
+            if (!cursor.takeNumber(1, KINDS - 1)) {
                 return false;
             }
             return readWordOnce(begin, table, Lexicon.boundSlot(kase, number, cursor.number));
@@ -1099,52 +1081,47 @@ public final class BentWords {
         }
 
         private boolean isAtClauseEnd() {
-            return cursor.isAtEnd() || cursor.nextSign() == ';';
+            char sign = cursor.nextSign();
+            return sign == 0 || sign == ';';
         }
 
         private boolean readItem(int item) {
             char sign = cursor.nextSign();
+            if (!isItemSign(sign)) {
+                boolean taken = cursor.takeWord();
+                draft.signs[item] = PLAIN_WORD;
+                draft.words[item] = cursor.word;
+                return taken;
+            }
+            cursor.at++;
             draft.signs[item] = sign;
+            if (!cursor.takeNumber(1, HOLES - 1)) {
+                return false;
+            }
+            draft.holes[item] = cursor.number;
+            if (sign == COUNT) {
+                return true;
+            }
+            boolean isPair = sign == SAME_NUMBER || sign == SAME_KIND;
+            if (!cursor.takeNumber(1, isPair ? HOLES - 1 : CASES - 1)) {
+                return false;
+            }
+            draft.seconds[item] = cursor.number;
+            return !isPair || cursor.number != draft.holes[item] || cursor.fail(cursor.start);
+        }
+
+        private static boolean isItemSign(char sign) {
             switch (sign) {
                 case NOUN_FORM:
                 case ARTICLE_AND_FORM:
                 case PRONOUN:
-                    return cursor.takeSign(sign) && readHole(item) && readCase(item);
                 case COUNT:
-                    return cursor.takeSign(sign) && readHole(item);
                 case SAME_NUMBER:
                 case SAME_KIND:
-                    return cursor.takeSign(sign) && readHole(item) && readOtherHole(item);
+                    return true;
                 default:
-                    return readPlainWord(item);
+                    return false;
             }
-        }
-
-        private boolean readHole(int item) {
-            boolean taken = cursor.takeDigit(HOLES - 1);
-            draft.holes[item] = cursor.number;
-            return taken;
-        }
-
-        private boolean readCase(int item) {
-            boolean taken = cursor.takeDigit(CASES - 1);
-            draft.seconds[item] = cursor.number;
-            return taken;
-        }
-
-        private boolean readOtherHole(int item) {
-            if (!cursor.takeDigit(HOLES - 1)) {
-                return false;
-            }
-            draft.seconds[item] = cursor.number;
-            return cursor.number != draft.holes[item] || cursor.fail(cursor.start);
-        }
-
-        private boolean readPlainWord(int item) {
-            boolean taken = cursor.takeWord();
-            draft.signs[item] = PLAIN_WORD;
-            draft.words[item] = cursor.word;
-            return taken;
         }
     }
 
@@ -1205,13 +1182,13 @@ public final class BentWords {
         }
 
         private boolean readA(Step step, int highest) {
-            boolean taken = cursor.takeDigit(highest);
+            boolean taken = cursor.takeNumber(1, highest);
             step.a = cursor.number;
             return taken;
         }
 
         private boolean readB(Step step, int highest) {
-            boolean taken = cursor.takeDigit(highest);
+            boolean taken = cursor.takeNumber(1, highest);
             step.b = cursor.number;
             return taken;
         }
@@ -1227,7 +1204,7 @@ public final class BentWords {
             if (!readA(step, HIGHEST_NOUN) || !readB(step, CASES - 1)) {
                 return false;
             }
-            boolean taken = cursor.takeDigit(NUMBERS - 1);
+            boolean taken = cursor.takeNumber(1, NUMBERS - 1);
             step.c = cursor.number;
             return taken;
         }
@@ -1471,21 +1448,23 @@ public final class BentWords {
         }
 
         int numberIn(int hole) {
-            return countIn(hole) == 1 ? 0 : 1;
+            return (cells[FIRST_HOLE + hole] - 1) % COUNTS == 1 ? 0 : 1;
         }
 
         /** 0: the form is told; 1 to 3: which other one stands for it; 4: the name does. */
         int defaultOf(int noun, int kase, int number) {
-            if (cells[formCell(noun, kase, number)] != 0) {
+            int first = noun * FORMS;
+            int ofCase = first + kase * NUMBERS;
+            if (cells[ofCase + number] != 0) {
                 return 0;
             }
-            if (cells[formCell(noun, 0, number)] != 0) {
+            if (cells[first + number] != 0) {
                 return 1;
             }
-            if (cells[formCell(noun, kase, 0)] != 0) {
+            if (cells[ofCase] != 0) {
                 return 2;
             }
-            return cells[formCell(noun, 0, 0)] != 0 ? 3 : 4;
+            return cells[first] != 0 ? 3 : 4;
         }
     }
 
@@ -1522,10 +1501,6 @@ public final class BentWords {
 
         long formAt(int noun, int slot) {
             return formOf(noun, slot / NUMBERS, slot % NUMBERS);
-        }
-
-        int tellable() {
-            return Integer.bitCount(tellableBits());
         }
 
         int tellableBits() {
@@ -1578,39 +1553,33 @@ public final class BentWords {
             if (sign == SAME_NUMBER) {
                 return state.numberIn(hole) == state.numberIn(other) || refuse(other, WHY_NUMBERS);
             }
-            return kindIn(hole) == kindIn(other) || refuse(other, WHY_KINDS);
+            int kind = lexicon.kinds[state.nounIn(hole)];
+            int otherKind = lexicon.kinds[state.nounIn(other)];
+            return kind == otherKind || refuse(other, WHY_KINDS);
         }
 
         /** Whether all that an item asks is told itself, not by a default. */
         private boolean isAllTold(int item) {
             char sign = lexicon.signs[item];
             int hole = lexicon.holes[item];
-            if (sign != NOUN_FORM && boundCell(item) == 0) {
+            int noun = state.nounIn(hole);
+            int kase = lexicon.seconds[item];
+            int number = state.numberIn(hole);
+            long[] table = sign == PRONOUN ? lexicon.pronouns : lexicon.articles;
+            long bound = table[Lexicon.boundSlot(kase, number, lexicon.kinds[noun])];
+            if (sign != NOUN_FORM && bound == 0) {
                 return refuse(hole, WHY_BOUND_WORD);
             }
-            return sign == PRONOUN || defaultIn(item) == 0 || refuse(hole, WHY_FORM);
-        }
-
-        private int kindIn(int hole) {
-            return lexicon.kinds[state.nounIn(hole)];
-        }
-
-        private long[] boundTable(int item) {
-            return lexicon.signs[item] == PRONOUN ? lexicon.pronouns : lexicon.articles;
-        }
-
-        /** An item's article or pronoun as it is told itself; 0: it is not. */
-        private long boundCell(int item) {
-            int hole = lexicon.holes[item];
-            int slot = Lexicon.boundSlot(lexicon.seconds[item], state.numberIn(hole), kindIn(hole));
-            return boundTable(item)[slot];
+            return sign == PRONOUN || state.defaultOf(noun, kase, number) == 0
+                || refuse(hole, WHY_FORM);
         }
 
         /** An item's article or pronoun with defaults; 0: it is left out. */
         private long boundWordIn(int item) {
             int hole = lexicon.holes[item];
-            return Lexicon.boundWord(boundTable(item), lexicon.seconds[item], state.numberIn(hole),
-                kindIn(hole));
+            int kind = lexicon.kinds[state.nounIn(hole)];
+            long[] table = lexicon.signs[item] == PRONOUN ? lexicon.pronouns : lexicon.articles;
+            return Lexicon.boundWord(table, lexicon.seconds[item], state.numberIn(hole), kind);
         }
 
         private int defaultIn(int item) {

@@ -6,7 +6,9 @@ import java.nio.file.Files;
 import java.nio.file.Path;
 import java.util.ArrayList;
 import java.util.List;
+import java.util.Map;
 import java.util.Set;
+import java.util.TreeMap;
 import java.util.TreeSet;
 import java.util.regex.Matcher;
 import java.util.regex.Pattern;
@@ -31,6 +33,7 @@ public final class RulesTest {
         members();
         nestedClasses();
         source();
+        depth();
         Check.finish();
     }
 
@@ -139,6 +142,50 @@ public final class RulesTest {
                 Check.due("a sign beyond 126", c, 126);
             }
         }
+    }
+
+    /**
+     * How deep calls go, by the names alone: a call of a name is one of every method that bears it.
+     * A call of a library's method of such a name would make it deeper, never less deep.
+     */
+    private static void depth() throws IOException {
+        String text = Files.readString(Path.of(SOURCE)).replaceAll("(?s)/\\*.*?\\*/|//[^\n]*", "");
+        Map<String, Set<String>> calls = new TreeMap<>();
+        Matcher heads = Pattern.compile(
+            "(?m)^( {4}| {8})(?:\\w+(?:\\[\\])? )*(\\w+)\\([^()]*\\) (throws \\w+ )?\\{$").matcher(text);
+        Map<String, String> bodies = new TreeMap<>();
+        while (heads.find()) {
+            String name = heads.group(2);
+            if (!Set.of("if", "for", "while", "switch").contains(name)) {
+                int close = text.indexOf("\n" + heads.group(1) + "}", heads.end());
+                bodies.merge(name, text.substring(heads.end(), close), String::concat);
+            }
+        }
+        for (Map.Entry<String, String> e : bodies.entrySet()) {
+            Set<String> names = calls.computeIfAbsent(e.getKey(), k -> new TreeSet<>());
+            Matcher m = Pattern.compile("(\\w+)\\(").matcher(e.getValue());
+            while (m.find()) {
+                if (bodies.containsKey(m.group(1))) {
+                    names.add(m.group(1));
+                }
+            }
+        }
+        Check.due("methods found", bodies.size() > 100, true);
+        for (String name : bodies.keySet()) {
+            String path = deepest(name, calls, 0);
+            Check.due("calls go at most eight deep: " + path, path.split(" ").length <= 8, true);
+        }
+    }
+
+    private static String deepest(String name, Map<String, Set<String>> calls, int level) {
+        String best = "";
+        for (String called : level > 20 ? Set.<String>of() : calls.get(name)) {
+            String path = deepest(called, calls, level + 1);
+            if (path.split(" ").length > best.split(" ").length || best.isEmpty()) {
+                best = path;
+            }
+        }
+        return best.isEmpty() ? name : name + " " + best;
     }
 
     /** The head of the method that a place stands in, without blanks ahead. */
