@@ -2,15 +2,40 @@
 final class Check {
     static int asked = 0;
     static int wrong = 0;
+    /** The test that runs now, where tests have names. */
+    static String test = "";
+
+    /** Beside what is promised anywhere, and such that lose their high bits in a byte or a short. */
+    private static final int[] FAR = {Integer.MIN_VALUE, Integer.MAX_VALUE, Integer.MIN_VALUE + 1,
+        Integer.MAX_VALUE - 1, 256, 65536, -65536, -256, 1 << 30};
 
     private Check() {
+    }
+
+    /** What is not low .. high: just beside it, and far away. */
+    static int[] beside(int low, int high) {
+        int[] all = new int[FAR.length + 2];
+        all[0] = low - 1;
+        all[1] = high + 1;
+        int found = 2;
+        for (int far : FAR) {
+            if (far < low || far > high) {
+                all[found] = far;
+                found++;
+            }
+        }
+        return java.util.Arrays.copyOf(all, found);
+    }
+
+    private static String named(String call) {
+        return test.isEmpty() ? call : test + ": " + call;
     }
 
     static void due(String call, long got, long want) {
         asked++;
         if (got != want) {
             wrong++;
-            System.out.println(call + " answered " + got + ", due is " + want);
+            System.out.println(named(call) + " answered " + got + ", due is " + want);
         }
     }
 
@@ -22,7 +47,7 @@ final class Check {
         asked++;
         if (!got.equals(want)) {
             wrong++;
-            System.out.println(call + " answered '" + got + "', due is '" + want + "'");
+            System.out.println(named(call) + " answered '" + got + "', due is '" + want + "'");
         }
     }
 

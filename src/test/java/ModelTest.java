@@ -4,7 +4,8 @@ import java.util.Random;
 /** Long random runs: each answer of BentWords must be that of the model. */
 public final class ModelTest {
     private static final int RUNS = 1500;
-    private static final int CALLS = 512;
+    /** Nothing is promised behind 512 calls, and up to 62 of them belong together. */
+    private static final int CALLS = 512 - 62;
     private static final int FEW = 20;
 
     private static Random random;

@@ -18,28 +18,12 @@ public final class TextsTest {
         Check.finish();
     }
 
-    private static void fault(int sort, String text, int want) {
-        BentWords x = Check.put(new BentWords(), text);
-        Check.due("fault(" + sort + ") of '" + text + "'", x.fault(sort), want);
-        int taken = x.text(sort);
-        if (want == N) {
-            Check.due("text of '" + text + "'", taken >= 0, true);
-            Check.due("the tape then", x.count(2), 0);
-        } else {
-            Check.due("text of '" + text + "'", taken, N);
-            Check.due("the tape then", x.count(2), text.length());
-            Check.due("scripts then", x.count(1), 0);
-            Check.due("nouns then", x.rule(0), N);
-        }
-    }
-
-    /** The fault lies where the mark | stands; without a mark there is none. */
     private static void lexicon(String marked) {
-        fault(0, marked.replace("|", ""), marked.indexOf('|'));
+        Faults.lexicon(marked);
     }
 
     private static void script(String marked) {
-        fault(1, marked.replace("|", ""), marked.indexOf('|'));
+        Faults.script(marked);
     }
 
     private static void aNewObject() {
