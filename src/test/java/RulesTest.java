@@ -16,6 +16,7 @@ import java.util.regex.Pattern;
 /** The public face, and those rules of LANGUAGE.md that can be seen by looking at the class. */
 public final class RulesTest {
     private static final String SOURCE = "src/main/java/BentWords.java";
+    private static final String DOCUMENT = "../shared/DOC.md";
     private static final String[] FACE = {
         "int feed(int,int,int,int,int)", "boolean end(int)", "int fault(int)", "int text(int)",
         "int rule(int)", "int noun(int,int)", "int form(int,int,int,int)",
@@ -30,6 +31,7 @@ public final class RulesTest {
 
     public static void main(String[] args) throws IOException {
         face();
+        faceOfDocument();
         members();
         nestedClasses();
         source();
@@ -59,6 +61,25 @@ public final class RulesTest {
         Check.due("constructors", BentWords.class.getDeclaredConstructors().length, 1);
         Check.due("NONE", BentWords.NONE, -1);
         Check.due("HIDDEN", BentWords.HIDDEN, -1000000);
+    }
+
+    /** Each line of the document's face stands in the source to the letter. */
+    private static void faceOfDocument() throws IOException {
+        String text = Files.readString(Path.of(SOURCE));
+        String document = Files.readString(Path.of(DOCUMENT));
+        String section = document.substring(document.indexOf("## The public face"));
+        Matcher lines = Pattern.compile("(?m)^    (public .*);$")
+            .matcher(section.substring(0, section.indexOf("\n## Terms")));
+        int found = 0;
+        while (lines.find()) {
+            String line = lines.group(1);
+            String end = line.endsWith(")") || line.contains(" throws ") ? " {\n" : ";\n";
+            Check.due("the source has " + line, text.contains("\n    " + line + end), true);
+            found++;
+        }
+        // two constants and the constructor beside the methods
+        Check.due("lines of the document's face", found, FACE.length + 3);
+        Check.due("public class", text.contains("\npublic final class BentWords {\n"), true);
     }
 
     private static void members() {
